@@ -709,19 +709,16 @@ public final class KnotStripes {
             return true;
         }
 
+        /** The caller knows that these make a triangle that may be merged. */
         void merge(int knot, int corners) {
-            int triangle = corners | bit(knot);
-            int inner = 0;
             for (int thread = 0; thread < threads; thread++) {
-                int outside = ends(thread) & ~triangle;
-                if (outside == 0) {
-                    inner |= bit(thread);
-                } else if (outside != ends(thread)) {
+                int outside = ends(thread) & ~corners & ~bit(knot);
+                if (outside != 0 && outside != ends(thread)) {
                     put(ends, thread, outside | bit(knot));
                 }
             }
-            dropThreads(inner);
-            // the greater one first, so that the lesser one keeps its number until it goes
+            // the three inner threads go with the corners; the greater corner is first, so that
+            // the lesser one keeps its number until it goes
             dropKnot(31 - Integer.numberOfLeadingZeros(corners));
             dropKnot(Integer.numberOfTrailingZeros(corners));
         }
@@ -1019,24 +1016,27 @@ public final class KnotStripes {
                 coverable |= net.ends(thread);
             }
             if (coverable == net.allKnots()) {
-                decide(net, net.threads() - 1, 0, 0);
+                decide(this, net, net.threads() - 1, 0, 0);
             }
         }
 
-        /** From the greatest thread down, without it first: so the least covers come first. */
-        private void decide(Net net, int thread, int covered, int cover) {
+        /**
+         * From the greatest thread down, without it first: so the least covers come first.
+         * Calls itself for the thread before, so at most as deep as there are threads.
+         */
+        private static void decide(Covers covers, Net net, int thread, int covered, int cover) {
             if (thread < 0) {
-                addCover(cover);
+                covers.addCover(cover);
                 return;
             }
             int all = net.allKnots();
             int ends = net.ends(thread);
-            int later = at(before, thread);
+            int later = at(covers.before, thread);
             if ((covered | later) == all) {
-                decide(net, thread - 1, covered, cover);
+                decide(covers, net, thread - 1, covered, cover);
             }
             if ((covered & ends) == 0 && (covered | ends | later) == all) {
-                decide(net, thread - 1, covered | ends, cover | bit(thread));
+                decide(covers, net, thread - 1, covered | ends, cover | bit(thread));
             }
         }
 
@@ -1194,7 +1194,7 @@ public final class KnotStripes {
         private static long usedBy(int ends, int colour) {
             int one = Integer.numberOfTrailingZeros(ends);
             int other = 31 - Integer.numberOfLeadingZeros(ends);
-            return 1L << COLOURS * one + colour | 1L << COLOURS * other + colour;
+            return usedWith(COLOURS * one, COLOURS * other, colour);
         }
 
         private static long usedColours(Net net) {
@@ -1275,7 +1275,7 @@ public final class KnotStripes {
 
         private int groupWays(int from, int stop, long used, int skip, int enough) {
             if (!isBare(from, stop, used, skip)) {
-                return waysFrom(from, stop, used, skip, enough);
+                return waysFrom(this, from, stop, used, skip, enough);
             }
             int first = from;
             while (first < stop && (at(bits, first) & skip) != 0) {
@@ -1285,41 +1285,48 @@ public final class KnotStripes {
                 return 1;
             }
             // no colour is used yet: each colour of the first thread has as many paintings
-            long begun = used | 1L << at(lesser, first) | 1L << at(greater, first);
-            return COLOURS * waysFrom(first + 1, stop, begun, skip, enough);
+            long begun = used | usedWith(at(lesser, first), at(greater, first), 0);
+            return COLOURS * waysFrom(this, first + 1, stop, begun, skip, enough);
         }
 
         /** Whether no colour is used at the knots of the group's threads. */
         private boolean isBare(int from, int stop, long used, int skip) {
             for (int place = from; place < stop; place++) {
                 boolean skipped = (at(bits, place) & skip) != 0;
-                if (!skipped && usedAt(place, used) != 0) {
+                if (!skipped && usedAt(at(lesser, place), at(greater, place), used) != 0) {
                     return false;
                 }
             }
             return true;
         }
 
-        private int usedAt(int place, long used) {
-            return (int) (used >>> at(lesser, place) | used >>> at(greater, place)) & 7;
+        /** The colours that are used at two knots, which are told by where their bits begin. */
+        private static int usedAt(int one, int other, long used) {
+            return (int) (used >>> one | used >>> other) & 7;
+        }
+
+        /** What a thread of this colour uses at two knots, which are told by where their bits begin. */
+        private static long usedWith(int one, int other, int colour) {
+            return 1L << one + colour | 1L << other + colour;
         }
 
         /** Calls itself for the next place, so at most as deep as there are threads. */
-        private int waysFrom(int place, int stop, long used, int skip, int enough) {
-            if (place >= stop) {
+        private static int waysFrom(Painter painter, int place, int stop, long used, int skip,
+                int enough) {
+            if (place >= stop || place >= MOST_THREADS) {
                 return 1;
             }
-            if ((at(bits, place) & skip) != 0) {
-                return waysFrom(place + 1, stop, used, skip, enough);
+            if ((at(painter.bits, place) & skip) != 0) {
+                return waysFrom(painter, place + 1, stop, used, skip, enough);
             }
-            int taken = usedAt(place, used);
-            int one = at(lesser, place);
-            int other = at(greater, place);
+            int one = at(painter.lesser, place);
+            int other = at(painter.greater, place);
+            int taken = usedAt(one, other, used);
             int sum = 0;
             for (int colour = 0; colour < COLOURS && sum < enough; colour++) {
                 if (!holds(taken, colour)) {
-                    long more = 1L << one + colour | 1L << other + colour;
-                    sum += waysFrom(place + 1, stop, used | more, skip, enough - sum);
+                    long more = used | usedWith(one, other, colour);
+                    sum += waysFrom(painter, place + 1, stop, more, skip, enough - sum);
                 }
             }
             return sum;
