@@ -1085,7 +1085,7 @@ public final class KnotStripes {
      * comes first. What colours are used at the knots is told by three bits for each knot.
      */
     private static final class Painter {
-        private static final int ANY_NUMBER = Integer.MAX_VALUE;
+        private static final int ANY_NUMBER = 0x7fffffff;
         private static final long CLASH = -1L;
 
         /** The open threads by place: their bits, and the first used-colour bits of their ends. */
