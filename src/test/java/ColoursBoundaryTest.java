@@ -176,6 +176,7 @@ final class ColoursBoundaryTest {
         Trials.unchanged("take(2)", "complete() = NOT_POSSIBLE");
         Trials.unchanged("take(4) paint(7,1)", "complete() = NOT_POSSIBLE");
         Trials.unchanged("take(2) grow(0) grow(0)", "complete() = NOT_POSSIBLE");
+        Trials.unchanged(Nets.ONE_THREAD_TOO_MANY, "complete() = NOT_POSSIBLE");
     }
 
     @Sentence("NOT_POSSIBLE if there is no such painting")

@@ -26,6 +26,9 @@ final class Nets {
     static final String GREATEST_PAINTED_NET = told("0-1:0,1-2:1,2-3:0,3-4:1,4-5:0,5-6:1,6-7:0,7-8:1,8-9:0,9-10:1,"
         + "10-11:0,11-12:1,12-13:0,0-13:1,0-5:2,2-7:2,4-9:2,6-11:2,8-13:2,1-10:2,3-12:2");
 
+    /** Five knots and seven threads: without any one of its threads it has a good painting, with all of them none. */
+    static final String ONE_THREAD_TOO_MANY = "knots(5) ties(0-1,0-2,1-3,2-3,1-4,2-4,3-4) ";
+
     /** 14 knots without threads. */
     static final String ALONE_14 = "knots(14) ";
 

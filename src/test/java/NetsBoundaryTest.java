@@ -29,6 +29,17 @@ final class NetsBoundaryTest {
         Trials.run("count(0) = 0", "count(9) = 0", "count(10) = 0", "undo() = NONE", "restore() = NONE");
     }
 
+    @Sentence({"UNKNOWN = -1: There is no such knot or thread.", "BAD_VALUE = -2: Another argument is out of range.",
+        "FULL = -3: There is no more room.", "NOT_POSSIBLE = -4: This is not possible.",
+        "NONE = -5: There is no such thing; not an error."})
+    static void promise01TheConstantsHaveTheirValues() {
+        Trials.due("UNKNOWN", KnotStripes.UNKNOWN, -1);
+        Trials.due("BAD_VALUE", KnotStripes.BAD_VALUE, -2);
+        Trials.due("FULL", KnotStripes.FULL, -3);
+        Trials.due("NOT_POSSIBLE", KnotStripes.NOT_POSSIBLE, -4);
+        Trials.due("NONE", KnotStripes.NONE, -5);
+    }
+
     @Sentence("An object is used for at most 512 calls after it has been made")
     static void promise01TheLastOfSoManyCallsIsAnswered() {
         Called x = new Called();
@@ -397,6 +408,11 @@ final class NetsBoundaryTest {
     @Sentence("When a knot or a thread is removed, those with greater numbers come one number earlier.")
     static void promise09ShrinkWhereThreadsOfTheTriangleAreFirst() {
         Trials.acted("take(3) paints(0,1,2,0,1,2,1,2,0)", "shrink(1) = 4", "4 knots 1-2:0 2-3:1 1-3:2 0-1:1 0-2:2 0-3:0");
+    }
+
+    @Sentence("two of whose neighbours are joined by a thread")
+    static void promise09ShrinkWhereTheLeastThreadJoinsTheNeighbours() {
+        Trials.acted("take(3)", "shrink(2) = 4", "4 knots 1-2 2-3 1-3 0-1 0-2 0-3");
     }
 
     @Sentence("Returns how many knots are left")

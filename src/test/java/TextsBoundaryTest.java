@@ -300,6 +300,12 @@ final class TextsBoundaryTest {
             "readNet() = 3", "count(1) = 2", "count(9) = 2");
     }
 
+    @Sentence({"BAD_VALUE if both knots of any thread are the same", "Makes the net that of the text"})
+    static void promise07ReadAShorterTextBehindARefusedOne() {
+        Trials.run("write(0-1,2-2)", "readNet() = BAD_VALUE", "write(0-1)", "readNet() = 2", "count(1) = 1", "count(9) = 1");
+        Trials.run("write(0-1,1-2,0-1)", "readNet() = NOT_POSSIBLE", "write(0-1,1-2)", "readNet() = 3", "count(1) = 2");
+    }
+
     // ---- promise 14: type
 
     @Sentence({"Types a character behind the text.", "Returns the length of the text then"})

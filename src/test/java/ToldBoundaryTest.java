@@ -295,6 +295,12 @@ final class ToldBoundaryTest {
         Trials.unchanged("take(2) grow(0) grow(0)", "paintings(0) = 0", "paintings(2) = 0");
     }
 
+    @Sentence({"what: 0 for whether there is any (1, otherwise 0)", "A painting gives each thread a colour"})
+    static void promise23TellThatOneThreadMakesThePaintingsEnd() {
+        Trials.unchanged(Nets.ONE_THREAD_TOO_MANY, "paintings(0) = 0", "paintings(1) = 0", "paintings(2) = 0");
+        Trials.unchanged(Nets.ONE_THREAD_TOO_MANY + "removeThread(0)", "paintings(0) = 1", "paintings(2) = 6");
+    }
+
     @Sentence("1 for how many there are in which the colours that threads have now are kept (those without one may have any)")
     static void promise23TellThePaintingsWhereAllThreadsHaveColours() {
         Trials.unchanged(Nets.PAINTED_K4, "paintings(0) = 1", "paintings(1) = 1", "paintings(2) = 6");
@@ -363,6 +369,7 @@ final class ToldBoundaryTest {
     static void promise24TellThatThereIsNoFirstPainting() {
         Trials.unchanged("take(2)", "firstPainting(0) = NONE", "firstPainting(14) = NONE");
         Trials.unchanged("take(2) grow(0) grow(0)", "firstPainting(0) = NONE", "firstPainting(20) = NONE");
+        Trials.unchanged(Nets.ONE_THREAD_TOO_MANY, "firstPainting(0) = NONE", "firstPainting(6) = NONE");
     }
 
     // ---- promise 25: takingOut
@@ -383,7 +390,7 @@ final class ToldBoundaryTest {
     @Sentence({"the one that is the least as a number (1 for the thread 0, 2 for 1, 4 for 2, and so on).",
         "of the sets that are enough with the fewest threads"})
     static void promise25TakeOneThreadOut() {
-        Trials.unchanged("knots(5) ties(0-1,0-2,1-3,2-3,1-4,2-4,3-4)", "takingOut(0) = 1", "takingOut(1) = 1");
+        Trials.unchanged(Nets.ONE_THREAD_TOO_MANY, "takingOut(0) = 1", "takingOut(1) = 1");
         Trials.unchanged("knots(7) ties(5-6,0-1,0-2,1-3,2-3,1-4,2-4,3-4)", "takingOut(0) = 1", "takingOut(1) = 2");
     }
 
